@@ -135,7 +135,7 @@ public final class WordSmith {
 
     /**
      * The built-in words, each in the place of its number, with how many numbers it takes from the
-     * data stack and puts there. The jumps take theirs when they are done, not when they are read.
+     * data stack and puts there, where Machine.lack looks at that.
      */
     private enum BuiltIn {
         ADD(0, "+", 2, 1),
@@ -170,26 +170,26 @@ public final class WordSmith {
         OUTER_COUNT(29, "j", 0, 1),
         EXIT(30, "exit", 0, 0),
         EXECUTE(31, "execute", 1, 0),
-        TICK(32, "'", 0, 1),
-        VARIABLE(33, "variable", 0, 0),
+        TICK(32, "'"),
+        VARIABLE(33, "variable"),
         CONSTANT(34, "constant", 1, 0),
-        COLON(35, ":", 0, 0),
-        IMMEDIATE(36, "immediate", 0, 0),
+        COLON(35, ":"),
+        IMMEDIATE(36, "immediate"),
         BLOCK(37, "block", 1, 1),
         UPDATE(38, "update", 0, 0),
         FLUSH(39, "flush", 0, 0),
-        SEMICOLON(40, ";", 0, 0),
-        IF(41, "if", 0, 0),
-        THEN(42, "then", 0, 0),
-        ELSE(43, "else", 0, 0),
-        BEGIN(44, "begin", 0, 0),
-        UNTIL(45, "until", 0, 0),
-        AGAIN(46, "again", 0, 0),
-        WHILE(47, "while", 0, 0),
-        REPEAT(48, "repeat", 0, 0),
-        DO(49, "do", 0, 0),
-        LOOP(50, "loop", 0, 0),
-        RECURSE(51, "recurse", 0, 0);
+        SEMICOLON(40, ";"),
+        IF(41, "if"),
+        THEN(42, "then"),
+        ELSE(43, "else"),
+        BEGIN(44, "begin"),
+        UNTIL(45, "until"),
+        AGAIN(46, "again"),
+        WHILE(47, "while"),
+        REPEAT(48, "repeat"),
+        DO(49, "do"),
+        LOOP(50, "loop"),
+        RECURSE(51, "recurse");
 
         private static final BuiltIn[] ALL = values();
 
@@ -197,6 +197,10 @@ public final class WordSmith {
         final String spelling;
         final int takes;
         final int puts;
+
+        BuiltIn(int number, String spelling) {
+            this(number, spelling, 0, 0);
+        }
 
         BuiltIn(int number, String spelling, int takes, int puts) {
             this.number = number;
@@ -713,24 +717,12 @@ public final class WordSmith {
             }
             switch (word) {
                 case DUP:
-                    data.push(c);
-                    data.push(c);
+                case SWAP:
+                case OVER:
+                case ROT:
+                    arrange(word, a, b, c);
                     break;
                 case DROP:
-                    break;
-                case SWAP:
-                    data.push(c);
-                    data.push(b);
-                    break;
-                case OVER:
-                    data.push(b);
-                    data.push(c);
-                    data.push(b);
-                    break;
-                case ROT:
-                    data.push(b);
-                    data.push(c);
-                    data.push(a);
                     break;
                 case DEPTH:
                     data.push(before);
@@ -758,6 +750,29 @@ public final class WordSmith {
                     break;
                 default:
                     performOnMemory(word, b, c);
+                    break;
+            }
+        }
+
+        private void arrange(BuiltIn word, int a, int b, int c) {
+            switch (word) {
+                case DUP:
+                    data.push(c);
+                    data.push(c);
+                    break;
+                case SWAP:
+                    data.push(c);
+                    data.push(b);
+                    break;
+                case OVER:
+                    data.push(b);
+                    data.push(c);
+                    data.push(b);
+                    break;
+                default:
+                    data.push(b);
+                    data.push(c);
+                    data.push(a);
                     break;
             }
         }
@@ -860,7 +875,6 @@ public final class WordSmith {
         MadeWord end() {
             MadeWord word = draft;
             draft = null;
-            open = 0;
             return word;
         }
 
@@ -997,7 +1011,6 @@ public final class WordSmith {
         void take(String newText) {
             text = newText;
             at = 0;
-            place = 0;
             machine.refuel();
         }
 

@@ -34,7 +34,7 @@ public final class BlocksTest {
         for (int i = 0; i < 16; i++) {
             x.disk(3, i, i + 1).disk(2, i, 0);
         }
-        Talk y = new Talk("updated, found again").run("0 block drop update 0 block drop").buffer(0, 1);
+        new Talk("updated, found again").run("0 block drop update 0 block drop").buffer(0, 1);
     }
 
     private static void flushWritesBoth() {

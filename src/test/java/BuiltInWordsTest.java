@@ -10,6 +10,7 @@ public final class BuiltInWordsTest {
         memoryWords();
         tooLittle();
         tooMuch();
+        justEnoughRoom();
         wrongNumbers();
         Talk.end();
     }
@@ -24,6 +25,7 @@ public final class BuiltInWordsTest {
         gives("7 -5 *", -35);
         gives("7 2 /", 3);
         gives("-7 2 /", -3);
+        gives("7 1 / 7 1 mod 7 -1 /", 7, 0, -7);
         gives("7 -2 /", -3);
         gives("7 2 mod", 1);
         gives("-7 2 mod", -1);
@@ -115,7 +117,28 @@ public final class BuiltInWordsTest {
         }
         new Talk("no room for r>").run("7 >r " + full).fails("r>", 3, 0);
         new Talk("no room for i").run(": full 24 0 do i loop 1 0 do i loop ;").fails("full", 3, 0);
-        new Talk("24 are fine").run(full + "swap rot + 0= dup drop").count(0, 23);
+    }
+
+    private static void justEnoughRoom() {
+        String full = "7 >r : full 24 0 do i loop ; full";
+        String[][] leaving = {
+            {"!", "+!", "drop 13 execute"},
+            {"+", "-", "*", "/", "mod", "and", "or", "xor", "=", "<", "drop", ".", ",", "allot", ">r",
+                "constant c", ": w if then ; w"},
+            {"0=", "negate", "swap", "rot", "@", "update", "flush", "drop 3 block", ": w exit ; w",
+                "variable v"},
+        };
+        for (int k = 0; k < leaving.length; k++) {
+            for (String text : leaving[k]) {
+                new Talk("24 numbers and " + text).run(full).count(0, 24).run(text).count(0, 22 + k);
+            }
+        }
+        String[] withOneLess = {"dup", "over", "depth", "here", "r>", "r@", "5", "' dup"};
+        for (String text : withOneLess) {
+            new Talk("23 numbers and " + text).run(full).run("drop").run(text).count(0, 24);
+        }
+        new Talk("i as the last").run(": w 12 0 do 1 0 do j i loop loop ; w").count(0, 24);
+        new Talk("j as the last").run(": w 12 0 do 1 0 do i j loop loop ; w").count(0, 24);
     }
 
     private static void wrongNumbers() {

@@ -13,7 +13,7 @@ public final class CompilingTest {
     }
 
     private static void branches() {
-        Talk t = new Talk("if").run(": w if 1 then 2 ; 0 w 5 w -1 w").stack(2, 1, 2, 1, 2);
+        new Talk("if").run(": w if 1 then 2 ; 0 w 5 w -1 w").stack(2, 1, 2, 1, 2);
         Talk u = new Talk("else").run(": w if 1 else 2 then 3 ; 0 w 5 w").stack(2, 3, 1, 3);
         u.run("drop drop drop drop : v if if 1 else 2 then else if 3 else 4 then then ;");
         u.run("1 1 v 0 1 v 1 0 v 0 0 v").stack(1, 2, 3, 4);
