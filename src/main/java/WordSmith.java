@@ -436,7 +436,8 @@ public final class WordSmith {
         /** The number of the latest word of this name, NONE if there is none. */
         int find(String name) {
             for (int k = made - 1; k >= 0; k--) {
-                if (words[k].name.equals(name)) {
+                MadeWord word = words[k];
+                if (word != null && word.name.equals(name)) {
                     return FIRST_MADE + k;
                 }
             }
