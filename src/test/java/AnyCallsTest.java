@@ -1,6 +1,6 @@
 import java.util.Random;
 
-/** Runs of 512 calls made by chance (always the same ones): none throws, all keep to the limits. */
+/** Runs of up to 512 calls made by chance (always the same ones): none throws, all keep to the limits. */
 public final class AnyCallsTest {
     private static final String[] WORDS = ("+ - * / mod and or xor = < 0= negate dup drop swap over "
             + "rot depth . @ ! +! here , allot >r r> r@ i j exit execute ' variable constant : "
@@ -10,11 +10,14 @@ public final class AnyCallsTest {
     private static final int[] NUMBERS = {0, 1, 2, 3, 4, 5, 6, 7, 15, 16, 23, 24, 39, 40, 41, 64, 95,
         96, 100, 123, 124, -1, Integer.MIN_VALUE, Integer.MAX_VALUE};
 
+    /** The most that count may answer, by what it is asked. */
+    private static final int[] LIMITS = {24, 24, Integer.MAX_VALUE, 24, 64, 1, 600};
+
     public static void main(String[] args) {
         for (int seed = 0; seed < 300; seed++) {
             Talk t = new Talk("calls by chance, run " + seed);
             long first = hashOfRun(new WordSmith(), new Random(seed), t);
-            long second = hashOfRun(t.smith, new Random(seed), t);
+            long second = hashOfRun(new WordSmith(), new Random(seed), t);
             t.due("the same run again", second, first);
         }
         Talk.end();
@@ -23,8 +26,10 @@ public final class AnyCallsTest {
     private static long hashOfRun(WordSmith smith, Random chance, Talk t) {
         long hash = 0;
         String waiting = "";
-        for (int call = 0; call < 512; call++) {
+        int calls = 0;
+        while (calls < 504) {
             int kind = chance.nextInt(20);
+            calls++;
             if (kind < 14) {
                 while (waiting.length() < 4) {
                     waiting += WORDS[chance.nextInt(WORDS.length)] + " ";
@@ -36,10 +41,11 @@ public final class AnyCallsTest {
                 boolean fits = answer == 0 || answer <= -1000 && answer > -9000 && -answer % 1000 < 120;
                 t.due("an answer like " + answer, fits ? 1 : 0, 1);
                 hash = 31 * hash + answer;
+                keepsToTheLimits(smith, t);
+                calls += LIMITS.length;
             } else {
                 hash = 31 * hash + asked(smith, chance);
             }
-            keepsToTheLimits(smith, t);
         }
         return hash;
     }
@@ -64,11 +70,10 @@ public final class AnyCallsTest {
     }
 
     private static void keepsToTheLimits(WordSmith smith, Talk t) {
-        int[] most = {24, 24, Integer.MAX_VALUE, 24, 64, 1, 600};
-        for (int what = 0; what < most.length; what++) {
+        for (int what = 0; what < LIMITS.length; what++) {
             int count = smith.count(what);
-            if (count < 0 || count > most[what]) {
-                t.due("count(" + what + ") within its limits", count, most[what]);
+            if (count < 0 || count > LIMITS[what]) {
+                t.due("count(" + what + ") within its limits", count, LIMITS[what]);
             }
         }
     }
