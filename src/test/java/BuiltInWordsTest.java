@@ -12,6 +12,7 @@ public final class BuiltInWordsTest {
         tooMuch();
         justEnoughRoom();
         wrongNumbers();
+        nothingElseChanges();
         Talk.end();
     }
 
@@ -152,5 +153,24 @@ public final class BuiltInWordsTest {
             t.fails("1 " + address + " +!", 5, place + 2);
         }
         t.fails("4 block", 5, 2).fails("-1 block", 5, 3).buffer(0, -1);
+    }
+
+    /** Beside the stack, a word changes only what the document says of it. */
+    private static void nothingElseChanges() {
+        String[][] rows = {
+            {"7 5 +", "12"}, {"7 5 -", "2"}, {"7 5 *", "35"}, {"7 5 /", "1"}, {"7 5 mod", "2"},
+            {"7 5 and", "5"}, {"7 5 or", "7"}, {"7 5 xor", "2"}, {"7 5 =", "0"}, {"5 7 <", "-1"},
+            {"7 0=", "0"}, {"7 negate", "-7"}, {"7 dup", "7 7"}, {"7 drop", ""}, {"7 5 swap", "5 7"},
+            {"7 5 over", "7 5 7"}, {"7 5 3 rot", "5 3 7"}, {"7 depth", "7 1"}, {"5 @", "0"},
+            {"here", "0"}, {"7 >r r>", "7"}, {"7 >r r@", "7 7 >r"}, {"' dup", "12"}, {"38 execute", ""},
+            {"7 5 !", "7 5 +!"}, {"7 ,", "7 0 ! 1 allot"}, {"0 allot", ""}, {"update flush", ""},
+            {"variable v", "0 , 0 constant v"}, {"7 .", "7 ' . execute"},
+        };
+        for (String[] row : rows) {
+            new Talk(row[0]).run(row[0]).looksLike(new Talk(row[1]).run(row[1]));
+        }
+        Talk t = new Talk("i, j and exit").run(": w 3 2 do 5 4 do i j exit loop loop ; w");
+        t.looksLike(new Talk("numbers").run(": w 3 2 do 5 4 do i j exit loop loop ; 4 2"));
+        new Talk("output alone").run("7 .").out(7).count(3, 0).count(4, 0).cell(0, 0).cell(7, 0).stack();
     }
 }
