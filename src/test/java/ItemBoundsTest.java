@@ -110,6 +110,8 @@ public final class ItemBoundsTest {
                 t.items(100, -1).fails("w", 1, 0).run(": w 1 ; w").stack(1);
             }
         }
+        // The document leaves it open whether a while is open beside its begin; here it is.
+        new Talk("a while as the ninth").run(": w if if if if if if if begin").fails(" while", 3, 1).count(5, 0);
     }
 
     private static void closedOnesLeaveRoom() {
